@@ -419,42 +419,32 @@ public final class RoleParts {
             openMessages = 0;
             openLoops = 0;
             loopsAround[0] = 0;
-            int width = 1;
-            for (int k = 0; k < protocol.size(); k += width) {
-                char c = protocol.get(k);
-                if (!take(c, protocol.get(k + 1))) {
+            for (int k = 0; k < protocol.size(); k++) {
+                if (!isSoundAt(protocol, k)) {
                     return false;
                 }
-                width = widthBehind(c);
             }
             return true;
         }
 
-        private static int widthBehind(char c) {
-            if (c == 'm') {
-                return LOOP_WIDTH;
+        private boolean isSoundAt(Text protocol, int k) {
+            char c = protocol.get(k);
+            switch (c) {
+                case 'm':
+                    return openLoop(protocol.get(k + 1));
+                case '{':
+                    return protocol.get(k - 2) != protocol.get(k - 1)
+                            && openMessage()
+                            && openBranch(protocol.get(k + 1));
+                case ',':
+                    return openBranch(protocol.get(k + 1));
+                case '}':
+                    openMessages--;
+                    return isInBounds();
+                default:
+                    boolean isReturn = isVariable(c) && protocol.get(k - 1) != 'm';
+                    return !isReturn || isLoopAroundMessage(c);
             }
-            if (c == '{' || c == ',') {
-                return BRANCH_WIDTH;
-            }
-            return isRole(c) ? 2 : 1;
-        }
-
-        private boolean take(char c, char following) {
-            if (c == 'm') {
-                return openLoop(following);
-            }
-            if (isRole(c)) {
-                return c != following && openMessage();
-            }
-            if (c == '{' || c == ',') {
-                return openBranch(following);
-            }
-            if (c == '}') {
-                openMessages--;
-                return isInBounds();
-            }
-            return c == 'e' || isLoopAroundMessage(c);
         }
 
         private boolean openLoop(char variable) {

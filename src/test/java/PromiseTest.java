@@ -21,6 +21,7 @@ public final class PromiseTest {
         typeAtItsLimit();
         faults();
         unsound();
+        unsoundOnesLeaveNothing();
         sound();
         defineKeepsAndReplaces();
         messages();
@@ -210,6 +211,27 @@ public final class PromiseTest {
         bad("AB{p.e,p.e,p.e,p.e,p.e,p.e,p.e,p.e,p.e,p.e,p.e,p.e,p.e,p.e}");
     }
 
+    /** What was read before has no bearing on what is read next. */
+    private static void unsoundOnesLeaveNothing() {
+        String[] stops = {"mX.mY.AB{p.mZ.AB{q.mX.e}}", "mX.AB{p.AB{q.AB{r.Y}}}", "mX.AB{p.AB{q.e,q.e}}",
+            "mX.mY.mZ.AB{p.CD{q.AA{p.e}}}", "mX.AB{p.X}}", "mX.AB{p.AB{q.X", "mX.AB{p.X,q.mY.AB{r.Y}}"};
+        for (String stop : stops) {
+            RoleParts x = new RoleParts();
+            define(x, stop);
+            due("X behind " + stop, define(x, "X"), BAD);
+            define(x, stop);
+            due("AB{p.X} behind " + stop, define(x, "AB{p.X}"), BAD);
+            define(x, stop);
+            due("mX.mY.mZ.e behind " + stop, define(x, "mX.mY.mZ.e"), NONE);
+            define(x, stop);
+            due("AB{p.CD{q.e},q.CD{q.e}} behind " + stop, define(x, "AB{p.CD{q.e},q.CD{q.e}}"), NONE);
+            define(x, stop);
+            due("e} behind " + stop, define(x, "e}"), 1);
+            define(x, stop);
+            due("AB{p.e behind " + stop, define(x, "AB{p.e"), 6);
+        }
+    }
+
     private static void sound() {
         good("e");
         good("mX.e");
@@ -343,7 +365,10 @@ public final class PromiseTest {
         RoleParts x = of("AB{p.CD{q.e},r.e}");
         due("begin with no part of C", x.begin(), false);
         noRun("begin with no part of C", x);
-        due("begin with one part missing", of("AB{p.AC{r.e},q.e}").begin(), false);
+        due("begin without A's part", of("BC{p.BA{r.e},q.e}").begin(), false);
+        due("begin without B's part", of("AC{p.AB{r.e},q.e}").begin(), false);
+        due("begin without C's part", of("AB{p.AC{r.e},q.e}").begin(), false);
+        due("begin without D's part", of("AB{p.AD{r.e},q.e}").begin(), false);
         RoleParts y = of("AB{p.AB{q.e}}");
         noRun("before begin", y);
         due("begin", y.begin(), true);
