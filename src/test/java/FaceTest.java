@@ -5,7 +5,10 @@ import java.lang.reflect.Modifier;
 import java.util.Set;
 import java.util.TreeSet;
 
-/** The class has the public face of the document, and nothing else of it can be seen. */
+/**
+ * The class has the public face of the document, and nothing else of it can be seen; what is inside
+ * keeps to rule 1 of the language.
+ */
 public final class FaceTest {
     private static final Set<String> FACE = Set.of(
             "public static final int RoleParts.NONE",
@@ -28,7 +31,23 @@ public final class FaceTest {
             "public int RoleParts.ready()",
             "public boolean RoleParts.over()");
 
+    private static boolean isWrong = false;
+
     public static void main(String[] args) {
+        checkFace();
+        checkPrivateMethods();
+        checkClassesInside();
+        int modifiers = RoleParts.class.getModifiers();
+        if (!Modifier.isPublic(modifiers) || !Modifier.isFinal(modifiers)) {
+            tell("The public face: the class is not public and final");
+        }
+        if (isWrong) {
+            System.exit(1);
+        }
+        System.out.println("the face is as due");
+    }
+
+    private static void checkFace() {
         Set<String> seen = new TreeSet<>();
         for (Field field : RoleParts.class.getDeclaredFields()) {
             add(seen, field.getModifiers(), field.isSynthetic(), field.toGenericString());
@@ -42,17 +61,40 @@ public final class FaceTest {
         Set<String> missing = new TreeSet<>(FACE);
         missing.removeAll(seen);
         seen.removeAll(FACE);
-        missing.forEach(member -> System.out.println("missing: " + member));
-        seen.forEach(member -> System.out.println("not in the document: " + member));
-        int modifiers = RoleParts.class.getModifiers();
-        boolean isOpen = !Modifier.isPublic(modifiers) || !Modifier.isFinal(modifiers);
-        if (isOpen) {
-            System.out.println("the class is not public and final");
+        missing.forEach(member -> tell("The public face: missing is " + member));
+        seen.forEach(member -> tell("The public face: not in the document is " + member));
+        if (RoleParts.NONE != -1 || RoleParts.BAD != -2) {
+            tell("The public face: NONE is " + RoleParts.NONE + " and BAD is " + RoleParts.BAD);
         }
-        if (isOpen || !missing.isEmpty() || !seen.isEmpty()) {
-            System.exit(1);
+    }
+
+    private static void checkPrivateMethods() {
+        Set<String> publicNames = new TreeSet<>();
+        for (Method method : RoleParts.class.getDeclaredMethods()) {
+            if (Modifier.isPublic(method.getModifiers())) {
+                publicNames.add(method.getName());
+            }
         }
-        System.out.println("the face is as due");
+        for (Method method : RoleParts.class.getDeclaredMethods()) {
+            if (Modifier.isPrivate(method.getModifiers()) && publicNames.contains(method.getName())) {
+                tell("Rule 1, \"No private method bears the name of a public one\": " + method);
+            }
+        }
+    }
+
+    private static void checkClassesInside() {
+        for (Class<?> inside : RoleParts.class.getDeclaredClasses()) {
+            int modifiers = inside.getModifiers();
+            boolean isSeen = Modifier.isPublic(modifiers) || Modifier.isProtected(modifiers);
+            if (isSeen || !Modifier.isStatic(modifiers)) {
+                tell("Rule 1, \"private or package-visible and static\": " + inside);
+            }
+        }
+    }
+
+    private static void tell(String what) {
+        isWrong = true;
+        System.out.println(what);
     }
 
     private static void add(Set<String> seen, int modifiers, boolean isSynthetic, String member) {
